@@ -50,6 +50,7 @@ public final class PromisesTest {
         undoing();
         images();
         counts();
+        longestRow();
         Check.end("PromisesTest");
     }
 
@@ -201,6 +202,7 @@ public final class PromisesTest {
     private static void faultsAreTheFirst() {
         fault("town a 99999999999999999999;", 2, 7);
         fault("town a 4294967297;", 2, 7);
+        fault("seed 999990;", 2, 5);
         fault("town a 10000", 2, 7);
         fault("town a 1;town b 1;link a b 10000 0;", 2, 27);
         fault("town a 1;town b 1;link a b 1 0;", 2, 29);
@@ -391,6 +393,7 @@ public final class PromisesTest {
         Check.due("14 not seen", x.seen(0), -3);
         Check.due("14 apart", x.cutDearest(4, 2), -2);
         Check.due("14 itself", x.cutDearest(4, 4), -2);
+        Check.due("14 refused", x.count(5), 1);
         Check.due("14 no town", x.cutDearest(4, 7), -1);
         Check.due("14 refused", x.count(5), 1);
         TownForest row = told(ROW);
@@ -826,5 +829,47 @@ public final class PromisesTest {
         Check.due("44 undone", x.undo(), 0);
         Check.due("44 switches", x.count(4), 0);
         Check.due("44 chains", x.count(3), 5);
+    }
+
+    /** 24 towns in a row, each linked beneath the one ahead: as deep as it can be. */
+    private static void longestRow() {
+        StringBuilder text = new StringBuilder();
+        for (int i = 0; i < 24; i++) {
+            text.append("town ").append((char) ('a' + i)).append(" 2;");
+        }
+        for (int i = 1; i < 24; i++) {
+            text.append("link ").append((char) ('a' + i)).append(' ').append((char) ('a' + i - 1)).append(" 3 4;");
+        }
+        TownForest x = told(text.toString());
+        Check.due("deepest: depth", x.town(23, 4), 23);
+        Check.due("deepest: size", x.town(0, 5), 24);
+        Check.due("deepest: under", x.town(0, 6), 48);
+        Check.due("deepest: root", x.town(23, 3), 0);
+        Check.due("deepest: above", x.above(23, 23), 0);
+        Check.due("deepest: far", x.far(23, 0), 69);
+        Check.due("deepest: widest", x.widest(7, 0) * 10000 + x.widest(7, 1) * 100 + x.widest(7, 2), 690023);
+        Check.due("deepest: midst", x.midst(0), 11);
+        Check.due("deepest: order", x.order(0, 23), 23);
+        Check.due("deepest: chain", x.chain(5, 2), 23);
+        Check.due("deepest: would", x.would(23), 1);
+        Check.due("deepest: touch", x.touch(23), 1);
+        Check.due("deepest: chain", x.chain(5, 2) * 100 + x.chain(23, 3), 2423);
+        Check.due("deepest: lengths", x.chain(0, 4), 69);
+        Check.due("deepest: reroot", x.reroot(23), 0);
+        Check.due("deepest: turned over", x.town(0, 4), 23);
+        Check.due("deepest: turned over", x.town(0, 1) * 100 + x.town(23, 5), 124);
+        Check.due("deepest: chain", x.chain(0, 0) * 100 + x.chain(0, 3), 2323);
+        Check.due("deepest: along", x.along(0, 23, 23), 23);
+        Check.due("deepest: meets", x.meets(0, 22), 22);
+        Check.due("deepest: walk", x.walk(0, 23), 69);
+        Check.due("deepest: seen", x.seen(6) * 100 + x.seen(5), 2448);
+        Check.due("deepest: raise", x.raise(23, 0, 9996), 23);
+        Check.due("deepest: settle", x.settle(0), 1);
+        Check.due("deepest: potential", x.potential(), 0);
+        Check.due("deepest: cutDearest", x.cutDearest(23, 0), 9999);
+        Check.due("deepest: joint", x.joint(23, 0, 0), 22 * 9999);
+        Check.due("deepest: parts", x.parts(9998), 24);
+        Check.due("deepest: leastFor", x.leastFor(2), 9999);
+        Check.due("deepest: no such town", x.touch(24), -1);
     }
 }

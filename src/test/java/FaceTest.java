@@ -1,0 +1,114 @@
+import java.io.IOException;
+import java.lang.reflect.Constructor;
+import java.lang.reflect.Field;
+import java.lang.reflect.Method;
+import java.lang.reflect.Modifier;
+import java.nio.file.Files;
+import java.nio.file.Path;
+import java.util.ArrayList;
+import java.util.HashSet;
+import java.util.List;
+import java.util.Set;
+import java.util.TreeSet;
+import java.util.regex.Matcher;
+import java.util.regex.Pattern;
+
+/** The face as ../shared/DOC.md writes it, and those rules of ../shared/LANGUAGE.md that can be looked up. */
+public final class FaceTest {
+    private FaceTest() {
+    }
+
+    public static void main(String[] args) throws IOException {
+        face(Files.readString(Path.of("../shared/DOC.md")));
+        language(Files.readString(Path.of("src/main/java/TownForest.java")));
+        Check.end("FaceTest");
+    }
+
+    private static void face(String document) {
+        String part = document.substring(document.indexOf("public final class TownForest"));
+        part = part.substring(0, part.indexOf("```"));
+        Set<String> due = new TreeSet<>();
+        Matcher m = Pattern.compile("public int (\\w+)\\(([^)]*)\\)([^;]*);").matcher(part);
+        while (m.find()) {
+            int params = m.group(2).isEmpty() ? 0 : m.group(2).split(",").length;
+            due.add(m.group(1) + " " + params + m.group(3).replaceAll("throws|[ ,]+", " ").replaceAll(" +", " "));
+        }
+        Set<String> got = new TreeSet<>();
+        Set<String> publicNames = new HashSet<>();
+        List<Method> others = new ArrayList<>();
+        for (Method method : TownForest.class.getDeclaredMethods()) {
+            if (Modifier.isPublic(method.getModifiers())) {
+                got.add(shape(method));
+                publicNames.add(method.getName());
+            } else if (!method.isSynthetic()) {
+                others.add(method);
+            }
+        }
+        Check.due("44 promises less the constructor", due.size(), 43);
+        Check.due("face " + due + " is " + got, due.equals(got) ? 1 : 0, 1);
+        Check.due("public final", TownForest.class.getModifiers(), Modifier.PUBLIC | Modifier.FINAL);
+        for (Method method : others) {
+            Check.due(method + " is private", Modifier.isPrivate(method.getModifiers()) ? 1 : 0, 1);
+            Check.due(method + " has a name of its own", publicNames.contains(method.getName()) ? 1 : 0, 0);
+        }
+        Constructor<?>[] made = TownForest.class.getDeclaredConstructors();
+        Check.due("one constructor", made.length, 1);
+        Check.due("without arguments, public", made[0].getParameterCount() + made[0].getModifiers(), Modifier.PUBLIC);
+        fields();
+    }
+
+    private static String shape(Method method) {
+        StringBuilder shape = new StringBuilder(method.getName()).append(' ').append(method.getParameterCount());
+        for (Class<?> e : method.getExceptionTypes()) {
+            shape.append(' ').append(e.getSimpleName());
+        }
+        boolean ints = method.getReturnType() == int.class;
+        for (Class<?> parameter : method.getParameterTypes()) {
+            ints &= parameter == int.class;
+        }
+        return shape.append(ints ? "" : " not ints").toString();
+    }
+
+    private static void fields() {
+        for (Field field : TownForest.class.getDeclaredFields()) {
+            if (!field.getName().equals("NONE")) {
+                Check.due(field + " is private", Modifier.isPrivate(field.getModifiers()) ? 1 : 0, 1);
+            }
+        }
+        for (Class<?> inside : TownForest.class.getDeclaredClasses()) {
+            int own = 0;
+            for (Field field : inside.getDeclaredFields()) {
+                own += Modifier.isStatic(field.getModifiers()) ? 0 : 1;
+            }
+            Check.due(inside + " has few fields", own <= 20 ? 1 : 0, 1);
+            Check.due(inside + " is static", Modifier.isStatic(inside.getModifiers()) ? 1 : 0, 1);
+        }
+        Check.due("few classes", TownForest.class.getDeclaredClasses().length < 12 ? 1 : 0, 1);
+    }
+
+    private static void language(String source) {
+        String code = source.replaceAll("(?s)/\\*.*?\\*/", "").replaceAll("//[^\n]*", "");
+        String[] ruledOut = {"->", "::", "\\bcatch\\b", "\\bfinally\\b", "\\bassert\\b", "\\bsynchronized\\b",
+            "Exact\\b", "\\bnull\\b", "\\bInteger\\.", "\\bObject\\b", "\\bgetMessage\\b", "\\bpackage\\b",
+            "\\bprotected\\b", "\\bpublic static (?!final int NONE)", "\\bstatic \\{", "\\bwhile \\(true\\)",
+            "\\bfor \\(;;\\)", "[^\\x00-\\x7f]"};
+        for (String pattern : ruledOut) {
+            Check.due("the program has " + pattern, Pattern.compile(pattern).matcher(code).find() ? 1 : 0, 0);
+        }
+        Matcher imports = Pattern.compile("import [^;]*;").matcher(code);
+        Check.due("an import", imports.find() ? 1 : 0, 1);
+        Check.due("the import", imports.group().equals("import java.util.NoSuchElementException;") ? 1 : 0, 1);
+        Check.due("another import", imports.find() ? 1 : 0, 0);
+        // All objects are made in constructors, exceptions aside.
+        Matcher made = Pattern.compile("\\bnew (\\w+)").matcher(code);
+        Set<String> kinds = new TreeSet<>();
+        while (made.find()) {
+            kinds.add(made.group(1));
+        }
+        for (String kind : kinds) {
+            boolean known = code.contains("class " + kind + " ") || kind.equals("int")
+                    || kind.equals("IndexOutOfBoundsException") || kind.equals("NoSuchElementException");
+            Check.due("new " + kind, known ? 1 : 0, 1);
+        }
+    }
+}
