@@ -70,7 +70,7 @@ public final class TownForest {
     private final Sight sight;
     private final Way way;
     private final Survey survey;
-    private final Dice dice;
+    private final Gamble gamble;
 
     public TownForest() {
         tape = new int[MOST_BYTES];
@@ -84,7 +84,7 @@ public final class TownForest {
         sight = new Sight();
         way = new Way();
         survey = new Survey();
-        dice = new Dice();
+        gamble = new Gamble();
     }
 
     // ---- the text
@@ -240,7 +240,7 @@ public final class TownForest {
         int length = way.dearestLength(forest);
         history.remember(forest);
         forest.walkFrom(a, b);
-        cutDearestOfWay();
+        way.cutDearestLink(forest);
         return length;
     }
 
@@ -282,7 +282,7 @@ public final class TownForest {
         if (way.towns > 1) {
             gone = way.dearestLength(forest);
             forest.walkFrom(a, b);
-            cutDearestOfWay();
+            way.cutDearestLink(forest);
         }
         forest.linkUnder(a, b, length, cap);
         return gone;
@@ -484,8 +484,6 @@ public final class TownForest {
         return least == NONE ? NOT_SO : least;
     }
 
-    // ---- by chance, undone, images
-
     public int chance(int seed, int n, int what) {
         if (seed < NONE || !isWithin(n, 1, MOST_CHANCES)) {
             return NONE;
@@ -493,23 +491,23 @@ public final class TownForest {
         if (what < 0 || what >= FACTS_OF_CHANCE || forest.towns == 0) {
             return NONE;
         }
-        history.remember(forest);
-        int before = forest.switches;
-        dice.last = seed == NONE ? names.seed : seed;
+        gamble.start(forest, seed == NONE ? names.seed : seed);
         for (int i = 0; i < n; i++) {
-            doByChance();
+            gamble.doOne();
         }
         switch (what) {
             case 0:
-                return forest.trees();
+                return gamble.trial.trees();
             case 1:
-                return forest.switches - before;
+                return gamble.trial.switches;
             case 2:
-                return forest.heavyNotPreferred();
+                return gamble.trial.heavyNotPreferred();
             default:
-                return forest.rootOf(0);
+                return gamble.trial.rootOf(0);
         }
     }
+
+    // ---- undone, images
 
     public int undo() {
         return history.goBack(forest) ? history.steps : NONE;
@@ -580,14 +578,6 @@ public final class TownForest {
         sight.some = false;
     }
 
-    /** The way must be laid, and have a link. */
-    private void cutDearestOfWay() {
-        int i = way.dearestLink(forest);
-        if (i != NONE) {
-            forest.cutBetween(way.row[i], way.row[i + 1]);
-        }
-    }
-
     private int factOfTown(int town, int what) {
         boolean isRoot = forest.parent[town] == NONE;
         switch (what) {
@@ -611,30 +601,6 @@ public final class TownForest {
                 return isRoot ? NOT_SO : forest.cap[town];
             default:
                 return forest.childrenOf(town);
-        }
-    }
-
-    private void doByChance() {
-        int kind = dice.draw(4);
-        int a = dice.draw(forest.towns);
-        int b = dice.draw(forest.towns);
-        switch (kind) {
-            case 0:
-                forest.touchAt(a);
-                break;
-            case 1:
-                forest.rerootAt(a);
-                break;
-            case 2:
-                if (!forest.hangTogether(a, b)) {
-                    forest.linkUnder(a, b, dice.draw(100) + 1, 1);
-                }
-                break;
-            default:
-                way.lay(forest, a, b);
-                // Here it is cut without being walked to first, unlike cutDearest().
-                cutDearestOfWay();
-                break;
         }
     }
 
@@ -1469,6 +1435,14 @@ public final class TownForest {
             return i == NONE ? NOT_SO : forest.length[lowerOfLink(forest, i)];
         }
 
+        /** The end nearer to where the way begins first; nothing without links. */
+        void cutDearestLink(Forest forest) {
+            int i = dearestLink(forest);
+            if (i != NONE) {
+                forest.cutBetween(row[i], row[i + 1]);
+            }
+        }
+
         int leastOf(Forest forest, int[] ofLinks) {
             int least = NOT_SO;
             for (int i = 0; i + 1 < towns; i++) {
@@ -1664,17 +1638,52 @@ public final class TownForest {
         }
     }
 
-    /** Draws one number after another from a seed on. */
-    private static final class Dice {
+    /** What comes by chance is done in a forest of its own: it is only asked how it would be then. */
+    private static final class Gamble {
+        final Forest trial;
+        final Way way;
         int last;
 
-        Dice() {
+        Gamble() {
+            trial = new Forest();
+            way = new Way();
             last = 0;
+        }
+
+        void start(Forest forest, int seed) {
+            trial.copyFrom(forest);
+            trial.switches = 0;
+            last = seed;
         }
 
         int draw(int modulo) {
             last = last * 1103515245 + 12345 & 0x7fffffff;
             return modulo > 0 ? (last >> 16) % modulo : 0;
+        }
+
+        /** There must be a town. */
+        void doOne() {
+            int kind = draw(4);
+            int a = draw(trial.towns);
+            int b = draw(trial.towns);
+            switch (kind) {
+                case 0:
+                    trial.touchAt(a);
+                    break;
+                case 1:
+                    trial.rerootAt(a);
+                    break;
+                case 2:
+                    if (!trial.hangTogether(a, b)) {
+                        trial.linkUnder(a, b, draw(100) + 1, 1);
+                    }
+                    break;
+                default:
+                    way.lay(trial, a, b);
+                    // Here it is cut without being walked to first, unlike cutDearest().
+                    way.cutDearestLink(trial);
+                    break;
+            }
         }
     }
 }

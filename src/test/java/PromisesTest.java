@@ -706,19 +706,14 @@ public final class PromisesTest {
             int seed = n == 1 ? -1 : (int) last[0];
             int what = n % 4;
             int answer = x.chance(seed, n, what);
+            chanceLeavesAll(x, n);
             for (int i = 0; i < n; i++) {
                 chanceOnTwin(twin, last);
             }
             int[] due = {twin.count(2), twin.count(4), twin.potential(), twin.town(0, 3)};
             Check.due("40 chance " + n + " what " + what, answer, due[what]);
-            for (int fact = 0; fact < 10; fact++) {
-                Check.dueRow("40 chance " + n + " fact " + fact, Check.facts(x, fact), Check.facts(twin, fact));
-            }
-            Check.due("40 one step", x.count(5), 1);
-            Check.due("40 switches by call", x.count(4), twin.count(4));
-            x.undo();
-            Check.due("40 undone", x.count(1) * 10 + x.count(4), 50);
         }
+        chanceBetweenDeeds();
         TownForest x = base();
         Check.due("40 n 0", x.chance(1, 0, 0), -1);
         Check.due("40 n 61", x.chance(1, 61, 0), -1);
@@ -727,6 +722,47 @@ public final class PromisesTest {
         Check.due("40 what -1", x.chance(1, 1, -1), -1);
         Check.due("40 refused", x.count(5), 0);
         Check.due("40 one town", told("town a 0;").chance(2147483647, 60, 0), 1);
+    }
+
+    /** It is only asked: all stays as the text left it. */
+    private static void chanceLeavesAll(TownForest x, int n) {
+        TownForest untouched = base();
+        for (int fact = 0; fact < 10; fact++) {
+            Check.dueRow("40 chance " + n + " fact " + fact, Check.facts(x, fact), Check.facts(untouched, fact));
+        }
+        for (int what = 0; what < 7; what++) {
+            Check.due("40 chance " + n + " count " + what, x.count(what), untouched.count(what));
+        }
+    }
+
+    /** Nor does it change what was seen, what can be undone or what is kept; its own switches count alone. */
+    private static void chanceBetweenDeeds() {
+        TownForest x = base();
+        TownForest twin = base();
+        x.walk(2, 4);
+        twin.walk(2, 4);
+        x.keep();
+        x.touch(3);
+        twin.touch(3);
+        x.value(0, 55);
+        twin.value(0, 55);
+        long[] last = {7};
+        int before = twin.count(4);
+        for (int i = 0; i < 60; i++) {
+            chanceOnTwin(twin, last);
+        }
+        int first = x.chance(7, 60, 1);
+        Check.due("40 switches in these alone", first, twin.count(4) - before);
+        Check.due("40 the same again", x.chance(7, 60, 1), first);
+        Check.due("40 switches by call stay", x.count(4), before);
+        Check.due("40 steps stay", x.count(5), 3);
+        Check.due("40 seen stays", x.seen(0), 32);
+        Check.due("40 undo takes the value", x.undo(), 2);
+        Check.due("40 value is back", x.town(0, 0), base().town(0, 0));
+        Check.due("40 undo takes the touch", x.undo(), 1);
+        x.chance(3, 60, 0);
+        Check.due("40 image stays", x.back(), 2);
+        Check.due("40 image has the walk", x.chain(2, 1), 4);
     }
 
     private static int draw(long[] last, int modulo) {

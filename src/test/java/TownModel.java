@@ -822,7 +822,8 @@ final class TownModel {
         if (from < -1 || out(times, 1, 60) || out(what, 0, 3) || n() == 0) {
             return -1;
         }
-        step();
+        State was = now;
+        now = was.copy();
         last = from == -1 ? seed : from;
         for (int i = 0; i < times; i++) {
             int kind = draw(4);
@@ -839,7 +840,8 @@ final class TownModel {
                 doCutDearest(way);
             }
         }
-        int[] facts = {now.roots.size(), now.switches - done.getLast().switches, potential(), root(0)};
+        int[] facts = {now.roots.size(), now.switches - was.switches, potential(), root(0)};
+        now = was;
         return facts[what];
     }
 
