@@ -3,7 +3,8 @@ import java.util.Random;
 /** Runs of calls by chance (always the same ones) on the class and on the model: the answers must agree. */
 public final class ModelTest {
     private static final int RUNS = 400;
-    private static final int CALLS = 500;
+    /** The last feed may go some 40 calls beyond; the document tells of 512 calls an object. */
+    private static final int CALLS = 460;
     private static final int TEXTS = 20000;
 
     private final Random random;
