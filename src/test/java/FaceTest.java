@@ -13,14 +13,13 @@ import java.util.TreeSet;
 import java.util.regex.Matcher;
 import java.util.regex.Pattern;
 
-/** The face as ../shared/DOC.md writes it, and those rules of ../shared/LANGUAGE.md that can be looked up. */
+/** The face as ../shared/DOC.md writes it; LanguageTest looks after the rules of ../shared/LANGUAGE.md. */
 public final class FaceTest {
     private FaceTest() {
     }
 
     public static void main(String[] args) throws IOException {
         face(Files.readString(Path.of("../shared/DOC.md")));
-        language(Files.readString(Path.of("src/main/java/TownForest.java")));
         Check.end("FaceTest");
     }
 
@@ -70,45 +69,18 @@ public final class FaceTest {
     }
 
     private static void fields() {
+        int constants = 0;
         for (Field field : TownForest.class.getDeclaredFields()) {
-            if (!field.getName().equals("NONE")) {
+            if (field.getName().equals("NONE")) {
+                constants++;
+                Check.due("NONE", TownForest.NONE, -1);
+                Check.due("NONE is an int", field.getType() == int.class ? 1 : 0, 1);
+                Check.due("NONE is public static final", field.getModifiers(),
+                        Modifier.PUBLIC | Modifier.STATIC | Modifier.FINAL);
+            } else {
                 Check.due(field + " is private", Modifier.isPrivate(field.getModifiers()) ? 1 : 0, 1);
             }
         }
-        for (Class<?> inside : TownForest.class.getDeclaredClasses()) {
-            int own = 0;
-            for (Field field : inside.getDeclaredFields()) {
-                own += Modifier.isStatic(field.getModifiers()) ? 0 : 1;
-            }
-            Check.due(inside + " has few fields", own <= 20 ? 1 : 0, 1);
-            Check.due(inside + " is static", Modifier.isStatic(inside.getModifiers()) ? 1 : 0, 1);
-        }
-        Check.due("few classes", TownForest.class.getDeclaredClasses().length < 12 ? 1 : 0, 1);
-    }
-
-    private static void language(String source) {
-        String code = source.replaceAll("(?s)/\\*.*?\\*/", "").replaceAll("//[^\n]*", "");
-        String[] ruledOut = {"->", "::", "\\bcatch\\b", "\\bfinally\\b", "\\bassert\\b", "\\bsynchronized\\b",
-            "Exact\\b", "\\bnull\\b", "\\bInteger\\.", "\\bObject\\b", "\\bgetMessage\\b", "\\bpackage\\b",
-            "\\bprotected\\b", "\\bpublic static (?!final int NONE)", "\\bstatic \\{", "\\bwhile \\(true\\)",
-            "\\bfor \\(;;\\)", "[^\\x00-\\x7f]"};
-        for (String pattern : ruledOut) {
-            Check.due("the program has " + pattern, Pattern.compile(pattern).matcher(code).find() ? 1 : 0, 0);
-        }
-        Matcher imports = Pattern.compile("import [^;]*;").matcher(code);
-        Check.due("an import", imports.find() ? 1 : 0, 1);
-        Check.due("the import", imports.group().equals("import java.util.NoSuchElementException;") ? 1 : 0, 1);
-        Check.due("another import", imports.find() ? 1 : 0, 0);
-        // All objects are made in constructors, exceptions aside.
-        Matcher made = Pattern.compile("\\bnew (\\w+)").matcher(code);
-        Set<String> kinds = new TreeSet<>();
-        while (made.find()) {
-            kinds.add(made.group(1));
-        }
-        for (String kind : kinds) {
-            boolean known = code.contains("class " + kind + " ") || kind.equals("int")
-                    || kind.equals("IndexOutOfBoundsException") || kind.equals("NoSuchElementException");
-            Check.due("new " + kind, known ? 1 : 0, 1);
-        }
+        Check.due("the constants of the face", constants, 1);
     }
 }
